@@ -79,6 +79,43 @@ final class Check {
         return x;
     }
 
+    /** All that an exchange shows of itself, but for its buffer: two exchanges with the same picture are alike. */
+    static String picture(SatelliteExchange x) {
+        StringBuilder p = new StringBuilder();
+        add(p, x.now(), x.stationCount(), x.callCount(), x.carrierCount(), x.queueLength(), x.nextEnd(),
+                x.busiestStation(), x.degradedNow(), x.carriersNeeded(), x.undoCount(), x.errorPosition());
+        for (int i = 0; i < 7; i++) {
+            add(p, x.getSetting(i));
+        }
+        for (int i = 0; i < x.stationCount(); i++) {
+            add(p, x.power(i), x.timingError(i), x.roundTrip(i), x.timingFaults(i), x.loadOf(i),
+                    x.errorAfter(i, 60), x.errorAfter(i, 30), x.framesInTime(i));
+            for (int f = 0; f < 30; f++) {
+                add(p, x.fade(i, f), x.powerAfter(i, f));
+            }
+        }
+        for (int i = 0; i < x.callCount(); i++) {
+            add(p, x.stateOf(i), x.senderOf(i), x.receiverOf(i), x.priorityOf(i), x.carrierOf(i), x.startOf(i),
+                    x.burstOf(i), x.endOf(i), x.waitOf(i), x.marginOf(i), x.degradedFrames(i), x.queuedAt(i));
+        }
+        return p.toString();
+    }
+
+    private static void add(StringBuilder p, int... values) {
+        for (int value : values) {
+            p.append(value).append(' ');
+        }
+    }
+
+    static void unchanged(String what, String before, SatelliteExchange x) {
+        checked++;
+        String after = picture(x);
+        if (!after.equals(before)) {
+            wrong++;
+            System.out.println(what + " changed " + before + "\n  to " + after);
+        }
+    }
+
     static void end() {
         System.out.println(checked + " checks, " + wrong + " wrong");
         if (wrong != 0) {

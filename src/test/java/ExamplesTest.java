@@ -1,5 +1,5 @@
 /** The document's three examples, as they stand there. */
-final class ExamplesTest {
+public final class ExamplesTest {
     private ExamplesTest() {
     }
 
