@@ -18,6 +18,7 @@ public final class CarrierTest {
         guards();
         sendersAndReceivers();
         leastStart();
+        behindAllOthers();
         queueOrder();
         rowsOfBursts();
         symbolsOfBursts();
@@ -108,6 +109,19 @@ public final class CarrierTest {
         x = Check.loaded("carriers 2;" + WIDE + "call a b 0 50 9;call b a 0 50 9;call c d 0 5 9;");
         Check.due("of equal starts", 120, x.startOf(2));
         Check.due("the lower carrier", 0, x.carrierOf(2));
+    }
+
+    /** Each call passes all those before it, one after the other. */
+    private static void behindAllOthers() {
+        SatelliteExchange x = Check.loaded(NARROW + "call a b 0 9 9;".repeat(16));
+        for (int k = 0; k < 16; k++) {
+            Check.due("state of call " + k + " in a row", ACTIVE, x.stateOf(k));
+            Check.due("start of call " + k + " in a row", 1 + 10 * k, x.startOf(k));
+        }
+        x = Check.loaded(NARROW + "call a b 1 9 9;".repeat(15) + "call a b 2 198 9;");
+        Check.due("callsToDrop of fifteen", 0x7fff, x.callsToDrop(15));
+        Check.due("fitsWithout fifteen", true, x.fitsWithout(15, 0x7fff));
+        Check.due("fitsWithout fourteen", false, x.fitsWithout(15, 0x3fff));
     }
 
     private static void queueOrder() {
