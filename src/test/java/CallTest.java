@@ -236,21 +236,15 @@ public final class CallTest {
         x.advance(1);
         Check.due("clearFrame a frame later", 201, x.clearFrame(0));
         x = Check.loaded(stations + "rain b 9000 9998 1;");
-        toFrame(x, 9900);
+        Check.advanceTo(x, 9900);
         Check.due("clearFrame 9999", 9999, x.clearFrame(0));
         x.advance(99);
         Check.due("clearFrame now, at the end", 9999, x.clearFrame(0));
         x = Check.loaded(stations + "rain b 9000 9999 1;");
-        toFrame(x, 9900);
+        Check.advanceTo(x, 9900);
         Check.due("clearFrame beyond 9999", NOT_FOUND, x.clearFrame(0));
         x.advance(99);
         Check.due("clearFrame at the end", NOT_FOUND, x.clearFrame(0));
-    }
-
-    private static void toFrame(SatelliteExchange x, int frame) {
-        while (x.now() < frame) {
-            x.advance(Math.min(200, frame - x.now()));
-        }
     }
 
     private static void conflicting() {
@@ -302,13 +296,13 @@ public final class CallTest {
         x.advance(1);
         Check.due("framesToWait of 201 a frame later", 200, x.framesToWait(1));
         x = Check.loaded(NARROW + "call a b 0 198 9999;call b c 0 198 1;");
-        toFrame(x, 9900);
+        Check.advanceTo(x, 9900);
         Check.due("framesToWait up to 9999", 99, x.framesToWait(1));
         x = Check.loaded(NARROW);
         x.advance(1);
         x.request(0, 1, 0, 198, 9999);
         x.request(1, 2, 0, 198, 1);
-        toFrame(x, 9900);
+        Check.advanceTo(x, 9900);
         Check.due("framesToWait beyond 9999", NOT_FOUND, x.framesToWait(1));
         x.advance(99);
         Check.due("framesToWait at the end", NOT_FOUND, x.framesToWait(1));

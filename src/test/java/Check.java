@@ -90,7 +90,7 @@ final class Check {
         for (int i = 0; i < x.stationCount(); i++) {
             add(p, x.power(i), x.timingError(i), x.roundTrip(i), x.timingFaults(i), x.loadOf(i),
                     x.errorAfter(i, 60), x.errorAfter(i, 30), x.framesInTime(i));
-            for (int f = 0; f < 30; f++) {
+            for (int f : new int[] {0, 1, 2, 3, 5, 9}) {
                 add(p, x.fade(i, f), x.powerAfter(i, f));
             }
         }
@@ -105,6 +105,64 @@ final class Check {
         for (int value : values) {
             p.append(value).append(' ');
         }
+    }
+
+    /**
+     * Both exchanges are alike in all that they show, in all that undo gives back, and in what their buffers hold.
+     * They are used up by it. The position of the latest error is not looked at.
+     */
+    static void alike(String what, SatelliteExchange x, SatelliteExchange y) {
+        String shown = what + " shows";
+        checked++;
+        String due = withoutErrorPosition(picture(y));
+        String got = withoutErrorPosition(picture(x));
+        if (!got.equals(due)) {
+            wrong++;
+            System.out.println(shown + " " + got + "\n  due is " + due);
+        }
+        for (int left = y.undoCount(); left > 0; left--) {
+            due(what + ": undo", left - 1, x.undo());
+            y.undo();
+            that(what + ": what undo gives back with " + (left - 1) + " left", sketch(x).equals(sketch(y)));
+        }
+        due(what + ": undo of nothing", -1, x.undo());
+        bufferAlike(what, x, y);
+    }
+
+    private static void bufferAlike(String what, SatelliteExchange x, SatelliteExchange y) {
+        int fed = y.feed(0x20202020, 0x20202020, 0x20202020, 0x20202020, 0x20202020);
+        due(what + ": bytes in the buffer", fed, x.feed(0x20202020, 0x20202020, 0x20202020, 0x20202020, 0x20202020));
+        int length = fed < 0 ? 1000 : fed;
+        due(what + ": load of the buffer", y.load(length), x.load(length));
+        due(what + ": errorPosition of the buffer", y.errorPosition(), x.errorPosition());
+        that(what + ": what the buffer describes", sketch(x).equals(sketch(y)));
+    }
+
+    private static String withoutErrorPosition(String picture) {
+        String[] values = picture.split(" ");
+        values[10] = "";
+        return String.join(" ", values);
+    }
+
+    /** The little of an exchange that each change changes. */
+    private static String sketch(SatelliteExchange x) {
+        StringBuilder p = new StringBuilder();
+        add(p, x.now(), x.undoCount(), x.carrierCount(), x.getSetting(4), x.getSetting(5), x.getSetting(6));
+        for (int i = 0; i < x.stationCount(); i++) {
+            add(p, x.power(i), x.timingFaults(i), x.errorAfter(i, 3));
+        }
+        for (int i = 0; i < x.callCount(); i++) {
+            add(p, x.stateOf(i), x.carrierOf(i), x.startOf(i), x.endOf(i), x.waitOf(i), x.degradedFrames(i));
+        }
+        return p.toString();
+    }
+
+    /** Lets frames pass until a frame is the present one. */
+    static void advanceTo(SatelliteExchange x, int frame) {
+        while (x.now() < frame && x.advance(Math.min(200, frame - x.now())) >= 0) {
+            continue;
+        }
+        due("the frame to advance to", frame, x.now());
     }
 
     static void unchanged(String what, String before, SatelliteExchange x) {
