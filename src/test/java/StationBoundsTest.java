@@ -30,6 +30,7 @@ public final class StationBoundsTest {
         framesAtTheEnd();
         acquiringAtItsBounds();
         acquiringForgetsEarlierErrors();
+        acquiringInEachFrame();
         errorsAhead();
         errorsBeyondTheEnd();
         powersAhead();
@@ -169,7 +170,11 @@ public final class StationBoundsTest {
         for (int i = 0; i < due.length; i++) {
             Check.due("powerAfter " + i + " on the way up", due[i], x.powerAfter(0, i));
         }
-        x.advance(3);
+        x.advance(1);
+        Check.due("powerAfter 0 one frame later", 340, x.powerAfter(0, 0));
+        Check.due("powerAfter 1 one frame later", 360, x.powerAfter(0, 1));
+        Check.due("the power one frame later", 340, x.power(0));
+        x.advance(2);
         Check.due("powerAfter 0 on the way down", 340, x.powerAfter(0, 0));
         Check.due("powerAfter 1 on the way down", 320, x.powerAfter(0, 1));
         Check.due("powerAfter 3 at the nominal power", 300, x.powerAfter(0, 3));
@@ -422,6 +427,19 @@ public final class StationBoundsTest {
         x.acquire(0);
         x.acquire(0);
         Check.due("acquire of a station that has no error is a change too", 5, x.undoCount());
+    }
+
+    /** In whichever frame: no earlier error is left, and so none comes back. */
+    private static void acquiringInEachFrame() {
+        for (int frame = 1; frame <= 140; frame++) {
+            SatelliteExchange x = Check.loaded("set length 200;set gain 100;station a 5000 2 0 0;");
+            Check.advanceTo(x, frame);
+            x.acquire(0);
+            Check.due("timingError behind acquire in frame " + frame, 0, x.timingError(0));
+            for (int ahead = 1; ahead <= 51; ahead++) {
+                Check.due("error " + ahead + " frames behind acquire in frame " + frame, 2 * ahead, x.errorAfter(0, ahead));
+            }
+        }
     }
 
     private static void errorsAhead() {

@@ -21,6 +21,7 @@ public final class TextBoundsTest {
         partsToLoad();
         badLengthsLeaveTheBuffer();
         loadingReplacesAll();
+        loadingForgetsCalls();
         loadingTwice();
         nothingToUndoBehindALoad();
         failedLoadsChangeTheBufferAlone();
@@ -164,6 +165,29 @@ public final class TextBoundsTest {
         SatelliteExchange y = Check.loaded(other);
         y.advance(2);
         Check.alike("a smaller text after another exchange, and two frames", x, y);
+    }
+
+    /** A call has nothing of one that had its index before the load. */
+    private static void loadingForgetsCalls() {
+        SatelliteExchange x = Check.loaded(TWO + "set level 999;");
+        x.advance(5);
+        x.request(0, 1, 0, 10, 9);
+        x.request(0, 1, 0, 2000, 9);
+        x.advance(3);
+        Check.due("degradedFrames before the load", 3, x.degradedFrames(0));
+        Check.load(x, TWO + "set level 1;");
+        Check.due("calls behind the load", 0, x.callCount());
+        Check.due("a request behind the load", 0, x.request(0, 1, 0, 10, 9));
+        Check.due("degradedFrames behind the load", 0, x.degradedFrames(0));
+        Check.due("endOf behind the load", 9, x.endOf(0));
+        x = Check.loaded(TWO);
+        x.advance(5);
+        x.request(0, 1, 0, 10, 9);
+        x.request(0, 1, 0, 10, 9);
+        Check.load(x, TWO + "call a b 0 2000 9;" + CALL);
+        x.advance(7);
+        Check.due("waitOf a call of the text, which waits", 7, x.waitOf(0));
+        Check.due("waitOf a call of the text, which was active", 0, x.waitOf(1));
     }
 
     /** What a text gave, or a text with an error, is not given already in the next one. */
