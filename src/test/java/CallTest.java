@@ -21,6 +21,7 @@ public final class CallTest {
         margins();
         degradedAndNow();
         beginningsDoNotDegrade();
+        degradedFramesStay();
         clearFrames();
         clearFramesAtTheirEdges();
         conflicting();
@@ -206,6 +207,18 @@ public final class CallTest {
             Check.due("degradedFrames of the first one, frame " + f, f == 0 ? 0 : 1, x.degradedFrames(0));
             x.advance(1);
         }
+    }
+
+    private static void degradedFramesStay() {
+        SatelliteExchange x = Check.loaded(NARROW + "set level 400;call a b 0 9 4;call a b 0 9 9;call a b 0 9 9;");
+        x.advance(3);
+        x.release(1);
+        Check.due("degradedFrames of a released call", 3, x.degradedFrames(1));
+        x.advance(1);
+        Check.due("degradedFrames of a call that ended by itself", 3, x.degradedFrames(0));
+        Check.due("degradedFrames of a released call, later", 3, x.degradedFrames(1));
+        Check.due("degradedFrames of one that goes on", 4, x.degradedFrames(2));
+        Check.due("degradedNow without the ended ones", 4, x.degradedNow());
     }
 
     private static void clearFrames() {

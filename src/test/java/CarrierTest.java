@@ -30,6 +30,7 @@ public final class CarrierTest {
         droppingOverCarriers();
         carriers();
         carriersAnew();
+        carriersAnewWithWaitingCalls();
         earliestStarts();
         Check.end();
     }
@@ -333,6 +334,21 @@ public final class CarrierTest {
         String before = Check.picture(x);
         Check.due("carriersNeeded in the order of the queue", 3, x.carriersNeeded());
         Check.unchanged("carriersNeeded", before, x);
+    }
+
+    /** A waiting call of a higher priority comes first, as if the active one were waiting too. */
+    private static void carriersAnewWithWaitingCalls() {
+        SatelliteExchange x = Check.loaded(NARROW + "call a b 0 119 9;call b c 9 79 9;call c d 9 79 9;");
+        Check.due("the first call is active", ACTIVE, x.stateOf(0));
+        Check.due("the others wait", 2, x.queueLength());
+        Check.due("carriersNeeded with the waiting ones first", 3, x.carriersNeeded());
+        x = Check.loaded(NARROW + "call a b 9 119 9;call b c 0 79 9;call c d 0 79 9;");
+        Check.due("carriersNeeded with the active one first", 2, x.carriersNeeded());
+        // Where their bursts stand now leaves no room, but anew they all fit.
+        x = Check.loaded(NARROW + "call a b 5 49 9;call a b 5 49 9;call a b 5 49 9;call c d 0 80 9;");
+        x.release(1);
+        Check.due("the last call waits", WAITING, x.stateOf(3));
+        Check.due("carriersNeeded of calls that fit anew", 1, x.carriersNeeded());
     }
 
     private static void earliestStarts() {

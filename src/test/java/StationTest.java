@@ -23,8 +23,13 @@ public final class StationTest {
         inTime();
         inTimeAtItsEdge();
         faults();
+        faultsWhateverTheMargin();
+        faultsOfOneCallBehindAnother();
+        endsBeforeTheQueue();
         acquiring();
+        acquiringTheTimingAlone();
         busiest();
+        busiestByCalls();
         loads();
         Check.end();
     }
@@ -283,6 +288,51 @@ public final class StationTest {
         }
     }
 
+    /** Out of time and degraded are two things: each counts without the other. */
+    private static void faultsWhateverTheMargin() {
+        SatelliteExchange x = Check.loaded("set guard 0;set level 300;station a 0 9 300 300;station b 0 0 299 299;"
+                + "call a b 0 10 9;call b a 0 10 9;");
+        x.advance(2);
+        Check.due("timingFaults of a sender whose call has margin", 2, x.timingFaults(0));
+        Check.due("degradedFrames of its call", 0, x.degradedFrames(0));
+        Check.due("timingFaults of a sender in time whose call has none", 0, x.timingFaults(1));
+        Check.due("degradedFrames of its call", 2, x.degradedFrames(1));
+        x.setSetting(4, 301);
+        x.advance(1);
+        Check.due("timingFaults when its call is degraded too", 3, x.timingFaults(0));
+        Check.due("degradedFrames of its call", 1, x.degradedFrames(0));
+    }
+
+    /** In the frame in which one call of a sender ends and another one begins, none was active before and after. */
+    private static void faultsOfOneCallBehindAnother() {
+        SatelliteExchange x = Check.loaded("set length 200;set guard 0;station a 0 9 0 0;station b 0 0 0 0;"
+                + "call a b 0 100 3;call a b 0 100 2;");
+        int[] due = {0, 1, 2, 2, 3, 3};
+        for (int f = 0; f < due.length; f++) {
+            Check.due("timingFaults of a sender of two calls in frame " + f, due[f], x.timingFaults(0));
+            Check.due("stateOf the second call in frame " + f, f < 3 ? 0 : f < 5 ? 1 : 2, x.stateOf(1));
+            x.advance(1);
+        }
+    }
+
+    /** All calls whose end has come end, and then the queue is served, the first one first. */
+    private static void endsBeforeTheQueue() {
+        SatelliteExchange x = Check.loaded("set length 200;set guard 0;set reference 1;set preamble 1;station a 0 0 0 0;"
+                + "station b 0 0 0 0;call a b 5 99 3;call a b 5 49 3;call a b 5 48 4;call a b 1 98 9;call a b 9 148 9;"
+                + "call a b 2 1 9;call a b 1 197 9;");
+        x.advance(3);
+        // 150 symbols are free: 149 of them for call 4, the first in the queue, and none for 5, 3 and 6 behind it.
+        int[] states = {2, 2, 1, 0, 1, 0, 0};
+        for (int k = 0; k < states.length; k++) {
+            Check.due("stateOf " + k + " when two have ended", states[k], x.stateOf(k));
+        }
+        Check.due("startOf the first in the queue", 1, x.startOf(4));
+        x.advance(1);
+        Check.due("the next one, which has the room of the third that ended", 150, x.startOf(5));
+        Check.due("then there is no room for another", 2, x.queueLength());
+        Check.due("the order of the queue", 3, x.queuedAt(0));
+    }
+
     private static void acquiring() {
         SatelliteExchange x = Check.loaded("set length 1000;station a 501 5 0 0;station b 501 5 0 0;");
         String before = Check.picture(x);
@@ -306,6 +356,23 @@ public final class StationTest {
         Check.due("acquire of no station at all", false, new SatelliteExchange().acquire(0));
     }
 
+    private static void acquiringTheTimingAlone() {
+        SatelliteExchange x = Check.loaded("set guard 0;set step 7;set level 299;station a 0 9 300 400;station b 0 0 0 0;"
+                + "rain a 1 99 50;call a b 3 10 99;");
+        x.advance(3);
+        Check.due("acquire", true, x.acquire(0));
+        Check.due("timingError behind acquire", 0, x.timingError(0));
+        Check.due("timingFaults stay", 3, x.timingFaults(0));
+        Check.due("power stays", 321, x.power(0));
+        Check.due("the drift stays", 9, x.errorAfter(0, 1));
+        Check.due("the frame stays", 3, x.now());
+        Check.due("the call stays active", 1, x.stateOf(0));
+        Check.due("degradedFrames stay", 3, x.degradedFrames(0));
+        x.advance(1);
+        Check.due("timingFaults go on", 4, x.timingFaults(0));
+        Check.due("power goes on", 328, x.power(0));
+    }
+
     private static void busiest() {
         Check.due("busiestStation of none", NOT_FOUND, new SatelliteExchange().busiestStation());
         SatelliteExchange x = Check.loaded("station a 0 0 0 0;station b 0 0 0 0;station c 0 0 0 0;station d 0 0 0 0;");
@@ -325,6 +392,16 @@ public final class StationTest {
         x.request(0, 1, 0, 90, 9);
         x.request(0, 2, 0, 90, 9);
         Check.due("busiestStation, waiting calls do not count", 1, x.busiestStation());
+    }
+
+    /** The most calls, sent and received, not the most symbols. */
+    private static void busiestByCalls() {
+        SatelliteExchange x = Check.loaded("carriers 2;station a 0 0 0 0;station b 0 0 0 0;station c 0 0 0 0;"
+                + "station d 0 0 0 0;call a b 0 700 9;call c d 0 1 9;call d c 0 1 5;");
+        Check.due("all calls are active", 0, x.queueLength());
+        Check.due("busiestStation of two short calls", 2, x.busiestStation());
+        x.advance(5);
+        Check.due("busiestStation when all have one call", 0, x.busiestStation());
     }
 
     private static void loads() {
