@@ -17,6 +17,8 @@ public final class CarrierTest {
         wholeFrame();
         guards();
         sendersAndReceivers();
+        guardBehindAnotherCarrier();
+        guardBehindTheSameCarrier();
         leastStart();
         behindAllOthers();
         queueOrder();
@@ -96,6 +98,36 @@ public final class CarrierTest {
         x.request(2, 0, 0, 10, 9);
         Check.due("between calls of the same sender and behind one of the same receiver", 150, x.startOf(6));
         Check.due("its carrier", 2, x.carrierOf(6));
+    }
+
+    /** A start that is free on its carrier, but in the guard behind a burst of the same station on the other one. */
+    private static void guardBehindAnotherCarrier() {
+        for (int more = -2; more <= 12; more++) {
+            // Carrier 0 is free from 150 on, carrier 1 from 150 + more on: behind a to b, which began at 110.
+            String text = "carriers 2;" + WIDE + "call c d 0 80 9;call d c 0 40 9;call a b 0 " + (10 + more) + " 9;";
+            for (String pair : new String[] {"a e", "e b", "a b"}) {
+                SatelliteExchange x = Check.loaded(text + "call " + pair + " 0 10 9;");
+                Check.due("start of a to b", 110, x.startOf(2));
+                Check.due("carrier of " + pair + " with " + more, more < 0 ? 1 : 0, x.carrierOf(3));
+                Check.due("start of " + pair + " with " + more, 150 + more, x.startOf(3));
+            }
+            SatelliteExchange x = Check.loaded(text + "call e f 0 10 9;");
+            Check.due("start of another pair with " + more, Math.min(150, 150 + more), x.startOf(3));
+        }
+    }
+
+    /** A start that is free for its stations, but in the guard behind a burst of others on the same carrier. */
+    private static void guardBehindTheSameCarrier() {
+        for (int more = -2; more <= 12; more++) {
+            // Now a to b stands on carrier 0, which is free from 150 + more on; c to d is done at 150.
+            String text = "carriers 2;" + WIDE + "call d c 0 40 9;call c d 0 80 9;call a b 0 " + (10 + more) + " 9;";
+            for (String pair : new String[] {"c f", "e d", "c d"}) {
+                SatelliteExchange x = Check.loaded(text + "call " + pair + " 0 10 9;");
+                Check.due("carrier of a to b", 0, x.carrierOf(2));
+                Check.due("carrier of " + pair + " with " + more, more <= 0 ? 0 : 1, x.carrierOf(3));
+                Check.due("start of " + pair + " with " + more, 150, x.startOf(3));
+            }
+        }
     }
 
     private static void leastStart() {

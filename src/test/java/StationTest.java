@@ -14,6 +14,7 @@ public final class StationTest {
         fades();
         powers();
         powerSteps();
+        powerInRainThatFades();
         powersAhead();
         timingWithoutDelay();
         timingWithEcho();
@@ -125,6 +126,22 @@ public final class StationTest {
         x.setSetting(5, 30);
         x.advance(1);
         Check.due("power by a step of 30", 137, x.power(0));
+    }
+
+    /** Power that is no longer needed goes, though it still rains. */
+    private static void powerInRainThatFades() {
+        String text = "station a 0 0 300 400;rain a 1 9 50;rain a 2 4 40;rain a 7 7 10;";
+        int[][] due = {{100, 300, 350, 390, 390, 390, 350, 350, 360, 350, 350, 300, 300},
+            {20, 300, 320, 340, 360, 380, 360, 350, 360, 350, 350, 330, 310}};
+        for (int[] powers : due) {
+            SatelliteExchange x = Check.loaded("set step " + powers[0] + ";" + text);
+            for (int f = 0; f < powers.length - 1; f++) {
+                Check.due("powerAfter " + f + " in rain that fades", powers[f + 1],
+                        Check.loaded("set step " + powers[0] + ";" + text).powerAfter(0, f));
+                Check.due("power in frame " + f + " of rain that fades", powers[f + 1], x.power(0));
+                x.advance(1);
+            }
+        }
     }
 
     private static void powersAhead() {
